@@ -369,6 +369,7 @@ public final class PromisesTest {
     Check.due("16: not built", p.correctionCount(), NOT_BUILT);
     p.build(1);
     Check.due("16: none", p.correctionCount(), 0);
+    Check.due("16: the first word", built("@5 1", "@6 1", 1).correctionCount(), 1);
     Check.due("16: literals need none", built("1", "2 @3", 1).correctionCount(), 0);
   }
 
@@ -380,6 +381,7 @@ public final class PromisesTest {
     Check.due("17: 2", p.correctionIndex(2), 6);
     Check.due("17: behind", p.correctionIndex(3), NO_SUCH_INDEX);
     Check.due("17: below", p.correctionIndex(-1), NO_SUCH_INDEX);
+    Check.due("17: the first word", built("@5 1", "@6 1", 1).correctionIndex(0), 0);
     Check.due("17: MIN", p.correctionIndex(MIN), NO_SUCH_INDEX);
     p.clear();
     Check.due("17: not built", p.correctionIndex(-1), NOT_BUILT);
@@ -415,6 +417,7 @@ public final class PromisesTest {
     Check.due("20: literals alone", p.unpredictedSize(), 11);
     p.clear();
     Check.due("20: not built", p.unpredictedSize(), NOT_BUILT);
+    Check.due("20: the first word", built("@5 1", "@6 1", 1).unpredictedSize(), 5);
     p = built("1 @5", "0 1 @5", 1);
     Check.due("20: may be less than the predicted size", p.unpredictedSize(), 4);
     Check.due("20: the predicted size then", p.patchSize(), 6);
@@ -445,6 +448,10 @@ public final class PromisesTest {
     p = built("1 1 2 2 3 3", "1 1 5 5 3 3", 1);
     Check.due("22: the lowest ready one", p.copyStep(0), 0);
     Check.due("22: the next", p.copyStep(1), 1);
+    p = built("1 1 9 9 2 2", "7 7 2 2 1 1", 1);
+    Check.due("22: a range that begins behind the other shares nothing", p.copyStep(0), 0);
+    p = built("8 8 2 2 8 8 1 1", "1 1 7 7 2 2", 1);
+    Check.due("22: a range that ends before the other shares nothing", p.copyStep(0), 0);
     p = threeBlocks();
     Check.due("22: the only one that waits for none", p.copyStep(0), 2);
     Check.due("22: when 0 has been dropped", p.copyStep(1), 1);
