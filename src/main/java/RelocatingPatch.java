@@ -1,6 +1,6 @@
 /**
  * A patch maker for two builds of a program image that differ mostly by addresses.
- * The whole patch is worked out by build; the other calls only read it.
+ * build finds the blocks and the copy order; the calls behind it work out the rest from these.
  */
 public final class RelocatingPatch {
   public static final int BAD_VALUE = -10001;
