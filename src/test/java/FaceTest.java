@@ -8,6 +8,7 @@ import java.nio.file.Path;
 import java.util.Arrays;
 import java.util.Set;
 import java.util.TreeSet;
+import java.util.regex.Matcher;
 import java.util.regex.Pattern;
 
 /** The public face of the document, and those rules of LANGUAGE.md that a reader of text can see. */
@@ -20,8 +21,10 @@ public final class FaceTest {
     "patchSize()", "unpredictedSize()", "copyCount()", "copyStep(int)", "isDropped(int)",
     "inPlaceSize()", "memoryAfter(int, int)", "patchedValue(int)"};
   private static final String[] FORBIDDEN = {
-    "throw", "try", "catch", "synchronized", "assert", "import", "package", "protected",
+    "throw", "throws", "try", "catch", "finally", "synchronized", "assert", "package", "protected",
     "native", "volatile", "transient"};
+  private static final Set<String> IMPORTS = Set.of("java.util.ArrayList", "java.util.List",
+      "java.util.Arrays", "java.util.Iterator");
 
   private FaceTest() {
   }
@@ -71,6 +74,7 @@ public final class FaceTest {
     Set<String> openNames = new TreeSet<>();
     Set<String> closedNames = new TreeSet<>();
     for (Method method : RelocatingPatch.class.getDeclaredMethods()) {
+      Check.holds(method + " is no lambda", !method.getName().startsWith("lambda$"));
       if (Modifier.isPrivate(method.getModifiers())) {
         closedNames.add(method.getName());
       } else {
@@ -99,6 +103,10 @@ public final class FaceTest {
       Check.holds(nested + " is static", Modifier.isStatic(nested.getModifiers()));
       Check.holds(nested + " is not open", !Modifier.isPublic(nested.getModifiers()));
       Check.holds(nested + " has at most 20 fields", nested.getDeclaredFields().length <= 20);
+      for (Method method : nested.getDeclaredMethods()) {
+        Check.holds(method + " is no lambda", !method.getName().startsWith("lambda$"));
+        Check.holds(method + " has at most 7 parameters", method.getParameterCount() <= 7);
+      }
     }
   }
 
@@ -108,8 +116,12 @@ public final class FaceTest {
     for (String word : FORBIDDEN) {
       Check.holds("no " + word, !Pattern.compile("\\b" + word + "\\b").matcher(code).find());
     }
-    Check.holds("no lambda or method reference", !code.contains("->") && !code.contains("::"));
-    Check.holds("no text constants", !code.contains("\""));
+    Matcher imports = Pattern.compile("\\bimport\\s+([^;]*);").matcher(code);
+    while (imports.find()) {
+      Check.holds("import " + imports.group(1), IMPORTS.contains(imports.group(1).trim()));
+    }
+    Check.holds("no method reference", !code.contains("::"));
+    Check.holds("no Exact function", !Pattern.compile("Exact\\s*\\(").matcher(code).find());
     Check.holds("signs are 1 to 127", text.chars().allMatch(c -> c >= 1 && c <= 127));
   }
 }

@@ -1,10 +1,16 @@
+import java.util.ArrayList;
+import java.util.List;
 import java.util.Random;
+import java.util.function.ToIntFunction;
 
 /** Many runs of calls on the class and on the model, which must answer alike. */
 public final class ModelTest {
   private static final int RUNS = 1500;
+  private static final int CALLS_OF_AN_OBJECT = 512;
 
-  private final RelocatingPatch patch = new RelocatingPatch();
+  private RelocatingPatch used = new RelocatingPatch();
+  private int calls = 0;
+  private final List<ToIntFunction<RelocatingPatch>> changes = new ArrayList<>();
   private final Model model = new Model();
   private final Random random;
   private final int run;
@@ -21,12 +27,34 @@ public final class ModelTest {
     Check.end("ModelTest");
   }
 
+  /**
+   * The object that is asked. Nothing is promised after its 512th call, so then a new one takes
+   * its place, which gets all calls that may have changed the old one.
+   */
+  private RelocatingPatch patch() {
+    if (calls == CALLS_OF_AN_OBJECT) {
+      used = new RelocatingPatch();
+      for (ToIntFunction<RelocatingPatch> call : changes) {
+        call.applyAsInt(used);
+      }
+      calls = changes.size();
+    }
+    calls++;
+    return used;
+  }
+
+  private int change(ToIntFunction<RelocatingPatch> call) {
+    int answer = call.applyAsInt(patch());
+    changes.add(call);
+    return answer;
+  }
+
   private void play() {
     askAll();
     int images = 1 + random.nextInt(3);
     for (int image = 0; image < images; image++) {
       if (image > 0 && random.nextBoolean()) {
-        due("clear()", patch.clear(), model.clear());
+        due("clear()", change(p -> p.clear()), model.clear());
       }
       fill();
       int builds = 1 + random.nextInt(3);
@@ -71,17 +99,17 @@ public final class ModelTest {
   }
 
   private void appendOld(int value, boolean address) {
-    due("appendOld(" + value + ", " + address + ")", patch.appendOld(value, address),
+    due("appendOld(" + value + ", " + address + ")", change(p -> p.appendOld(value, address)),
         model.appendOld(value, address));
   }
 
   private void appendNew(int value, boolean address) {
-    due("appendNew(" + value + ", " + address + ")", patch.appendNew(value, address),
+    due("appendNew(" + value + ", " + address + ")", change(p -> p.appendNew(value, address)),
         model.appendNew(value, address));
   }
 
   private void build(int minLength) {
-    due("build(" + minLength + ")", patch.build(minLength), model.build(minLength));
+    due("build(" + minLength + ")", change(p -> p.build(minLength)), model.build(minLength));
   }
 
   private void change() {
@@ -90,22 +118,22 @@ public final class ModelTest {
     switch (random.nextInt(4)) {
       case 0 -> appendOld(value, random.nextBoolean());
       case 1 -> appendNew(value, random.nextBoolean());
-      case 2 -> due("setNew(" + index + ", " + value + ")", patch.setNew(index, value),
+      case 2 -> due("setNew(" + index + ", " + value + ")", change(p -> p.setNew(index, value)),
           model.setNew(index, value));
-      default -> due("clear()", patch.clear(), model.clear());
+      default -> due("clear()", change(p -> p.clear()), model.clear());
     }
     askAll();
   }
 
   private void askAll() {
-    due("oldLength()", patch.oldLength(), model.oldLength());
-    due("newLength()", patch.newLength(), model.newLength());
-    due("correctionCount()", patch.correctionCount(), model.correctionCount());
-    due("literalCount()", patch.literalCount(), model.literalCount());
-    due("patchSize()", patch.patchSize(), model.patchSize());
-    due("unpredictedSize()", patch.unpredictedSize(), model.unpredictedSize());
-    due("copyCount()", patch.copyCount(), model.copyCount());
-    due("inPlaceSize()", patch.inPlaceSize(), model.inPlaceSize());
+    due("oldLength()", patch().oldLength(), model.oldLength());
+    due("newLength()", patch().newLength(), model.newLength());
+    due("correctionCount()", patch().correctionCount(), model.correctionCount());
+    due("literalCount()", patch().literalCount(), model.literalCount());
+    due("patchSize()", patch().patchSize(), model.patchSize());
+    due("unpredictedSize()", patch().unpredictedSize(), model.unpredictedSize());
+    due("copyCount()", patch().copyCount(), model.copyCount());
+    due("inPlaceSize()", patch().inPlaceSize(), model.inPlaceSize());
     int most = Math.max(model.oldLength(), model.newLength());
     for (int i = -1; i <= most + 1; i++) {
       askAt(i);
@@ -123,26 +151,26 @@ public final class ModelTest {
 
   private void askAt(int i) {
     String at = "(" + i + ")";
-    due("newValue" + at, patch.newValue(i), model.newValue(i));
-    due("blockOldStart" + at, patch.blockOldStart(i), model.blockOldStart(i));
-    due("blockNewStart" + at, patch.blockNewStart(i), model.blockNewStart(i));
-    due("blockLength" + at, patch.blockLength(i), model.blockLength(i));
-    due("blockOf" + at, patch.blockOf(i), model.blockOf(i));
-    due("predictedValue" + at, patch.predictedValue(i), model.predictedValue(i));
-    due("correctionIndex" + at, patch.correctionIndex(i), model.correctionIndex(i));
-    due("copyStep" + at, patch.copyStep(i), model.copyStep(i));
-    due("isDropped" + at, patch.isDropped(i), model.isDropped(i));
-    due("patchedValue" + at, patch.patchedValue(i), model.patchedValue(i));
+    due("newValue" + at, patch().newValue(i), model.newValue(i));
+    due("blockOldStart" + at, patch().blockOldStart(i), model.blockOldStart(i));
+    due("blockNewStart" + at, patch().blockNewStart(i), model.blockNewStart(i));
+    due("blockLength" + at, patch().blockLength(i), model.blockLength(i));
+    due("blockOf" + at, patch().blockOf(i), model.blockOf(i));
+    due("predictedValue" + at, patch().predictedValue(i), model.predictedValue(i));
+    due("correctionIndex" + at, patch().correctionIndex(i), model.correctionIndex(i));
+    due("copyStep" + at, patch().copyStep(i), model.copyStep(i));
+    due("isDropped" + at, patch().isDropped(i), model.isDropped(i));
+    due("patchedValue" + at, patch().patchedValue(i), model.patchedValue(i));
     askPredictedAddress(i);
   }
 
   private void askPredictedAddress(int address) {
-    due("predictedAddress(" + address + ")", patch.predictedAddress(address),
+    due("predictedAddress(" + address + ")", patch().predictedAddress(address),
         model.predictedAddress(address));
   }
 
   private void askMemory(int steps, int index) {
-    due("memoryAfter(" + steps + ", " + index + ")", patch.memoryAfter(steps, index),
+    due("memoryAfter(" + steps + ", " + index + ")", patch().memoryAfter(steps, index),
         model.memoryAfter(steps, index));
   }
 

@@ -45,33 +45,17 @@ public final class PromisesTest {
     Check.end("PromisesTest");
   }
 
-  /** Words parted by blanks; "@" before a value makes it an address. */
   private static RelocatingPatch images(String oldWords, String newWords) {
-    RelocatingPatch p = new RelocatingPatch();
-    for (String word : oldWords.trim().split(" +")) {
-      if (!word.isEmpty()) {
-        p.appendOld(Integer.parseInt(word.replace("@", "")), word.startsWith("@"));
-      }
-    }
-    for (String word : newWords.trim().split(" +")) {
-      if (!word.isEmpty()) {
-        p.appendNew(Integer.parseInt(word.replace("@", "")), word.startsWith("@"));
-      }
-    }
-    return p;
+    return Images.of(oldWords, newWords);
   }
 
   private static RelocatingPatch built(String oldWords, String newWords, int minLength) {
-    RelocatingPatch p = images(oldWords, newWords);
-    p.build(minLength);
-    return p;
+    return Images.built(oldWords, newWords, minLength);
   }
 
   private static void block(
       String name, RelocatingPatch p, int block, int oldStart, int newStart, int length) {
-    Check.due(name + ": oldStart of " + block, p.blockOldStart(block), oldStart);
-    Check.due(name + ": newStart of " + block, p.blockNewStart(block), newStart);
-    Check.due(name + ": length of " + block, p.blockLength(block), length);
+    Images.block(name, p, block, oldStart, newStart, length);
   }
 
   /**
@@ -556,7 +540,8 @@ public final class PromisesTest {
     Check.due("still built", p.patchSize(), 17);
     Check.due("still the old length", p.oldLength(), 10);
     Check.due("still the new length", p.newLength(), 11);
-    while (p.appendOld(1, false) >= 0) {
+    for (int i = 0; i < 40; i++) {
+      p.appendOld(1, false);
       p.appendNew(1, false);
     }
     p.build(1);
