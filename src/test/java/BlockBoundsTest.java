@@ -165,6 +165,8 @@ public final class BlockBoundsTest {
     p = Images.built("1 2 3", "2 3 9 1 2", 1);
     Images.block("9: lowest newStart, higher oldStart", p, 0, 1, 0, 2);
     Images.block("9: lowest newStart, higher oldStart, the rest", p, 1, 0, 3, 1);
+    p = Images.built("90 91 92 93 5", "5 80 5", 1);
+    Images.block("9: lowest newStart, the last old word", p, 0, 4, 0, 1);
     p = Images.built("5", "5 5 5", 1);
     Images.block("9: the first of three", p, 0, 0, 0, 1);
     p = Images.built("5", Images.same("5", 48), 1);
@@ -175,8 +177,12 @@ public final class BlockBoundsTest {
   private static void lowestOldStart() {
     RelocatingPatch p = Images.built("5 6 9 5 6", "5 6", 1);
     Images.block("9: lowest oldStart", p, 0, 0, 0, 2);
+    p = Images.built("5 90 5", "80 81 82 5", 1);
+    Images.block("9: lowest oldStart, the last new word", p, 0, 0, 3, 1);
     p = Images.built(Images.same("5", 48), "5", 1);
     Images.block("9: the first of 48", p, 0, 0, 0, 1);
+    p = Images.built(Images.same("5", 48), Images.up(100, 47) + "5", 1);
+    Images.block("9: the first of 48 for the last of 48", p, 0, 0, 47, 1);
     p = Images.built("9 @1 8 @2 7 @3", "@4", 1);
     Images.block("9: the first address", p, 0, 1, 0, 1);
     p = Images.built("5 9 5 8 5", "5 1 5", 1);

@@ -29,6 +29,7 @@ public final class ImageBoundsTest {
     clearCounts();
     clearIsAChange();
     clearMakesRoom();
+    clearForgetsFlags();
     lengths();
     newValueIndexes();
     newValueNeedsNoPatch();
@@ -336,6 +337,17 @@ public final class ImageBoundsTest {
     Check.due("5: no old words", p.build(1), 0);
     Check.due("5: memory of no old words", p.memoryAfter(0, 0), 0);
     Check.due("5: one word in memory", p.memoryAfter(0, 1), Images.NO_SUCH_INDEX);
+  }
+
+  private static void clearForgetsFlags() {
+    RelocatingPatch p = Images.built("@1 2", "@1 2", 1);
+    p.clear();
+    p.appendOld(3, false);
+    p.appendOld(2, true);
+    p.appendNew(4, false);
+    p.appendNew(5, true);
+    Check.due("5: flags of before the clear", p.build(1), 1);
+    Images.block("5: flags of before the clear", p, 0, 1, 1, 1);
   }
 
   // promises 6 and 7

@@ -190,6 +190,12 @@ public final class PredictionBoundsTest {
     p = Images.built("7 7 7 @1 90 8 @1", "8 @9 80 7 7 7 @9", 1);
     Check.due("17: by the new word, not by the length", p.correctionIndex(0), 1);
     Check.due("17: then that of the longest block", p.correctionIndex(1), 6);
+    p = Images.built("1 @9", "80 81 82 1 @5", 1);
+    Check.due("16: behind the end of the old image", p.correctionCount(), 1);
+    Check.due("17: behind the end of the old image", p.correctionIndex(0), 4);
+    Check.due("20: behind the end of the old image", p.unpredictedSize(), 8);
+    p = Images.built("90 91 92 1 @9", "1 @5", 1);
+    Check.due("17: before the end of the old image", p.correctionIndex(0), 1);
   }
 
   private static void correctionsOfDropped() {
