@@ -300,6 +300,14 @@ public final class InPlaceBoundsTest {
     memory("25: copied behind the old image", p, 1, 1, 2, 0, 1, 2, 0);
     p = Images.built("1 2 3", "2", 1);
     memory("25: the rest of the old image stays", p, 1, 2, 2, 3);
+    p = Images.built("7 8 9", "7 8 9", 1);
+    p.clear();
+    p.appendOld(1, false);
+    for (int value = 4; value <= 6; value++) {
+      p.appendNew(value, false);
+    }
+    p.build(1);
+    memory("25: 0, not what was cleared", p, 0, 1, 0, 0);
   }
 
   // promise 25: "A copy step only moves values; addresses are not changed by it"
