@@ -1,4 +1,4 @@
-/** The four examples of the document. */
+/** The four examples of the document, and the one in README.md. */
 public final class ExamplesTest {
   private ExamplesTest() {
   }
@@ -8,6 +8,7 @@ public final class ExamplesTest {
     wordsThatChangePlaces();
     lowestOldStart();
     errorsAndEmptyImages();
+    readme();
     Check.end("ExamplesTest");
   }
 
@@ -69,5 +70,24 @@ public final class ExamplesTest {
     Check.due("4 memoryAfter(1, 0)", p.memoryAfter(1, 0), -10001);
     Check.due("4 predictedAddress(10000)", p.predictedAddress(10000), -10001);
     Check.due("4 predictedAddress(12)", p.predictedAddress(12), 12);
+  }
+
+  private static void readme() {
+    RelocatingPatch patch = new RelocatingPatch();
+    Check.due("README appendOld(1, false)", patch.appendOld(1, false), 0);
+    Check.due("README appendOld(0, true)", patch.appendOld(0, true), 1);
+    Check.due("README appendNew(7, false)", patch.appendNew(7, false), 0);
+    Check.due("README appendNew(1, false)", patch.appendNew(1, false), 1);
+    Check.due("README appendNew(1, true)", patch.appendNew(1, true), 2);
+    Check.due("README build(2)", patch.build(2), 1);
+    Check.due("README blockNewStart(0)", patch.blockNewStart(0), 1);
+    Check.due("README predictedAddress(0)", patch.predictedAddress(0), 1);
+    Check.due("README correctionCount()", patch.correctionCount(), 0);
+    Check.due("README patchSize()", patch.patchSize(), 4);
+    Check.due("README unpredictedSize()", patch.unpredictedSize(), 6);
+    Check.due("README copyStep(0)", patch.copyStep(0), 0);
+    Check.due("README memoryAfter(0, 1)", patch.memoryAfter(0, 1), 0);
+    Check.due("README memoryAfter(1, 1)", patch.memoryAfter(1, 1), 1);
+    Check.due("README patchedValue(2)", patch.patchedValue(2), 1);
   }
 }

@@ -34,7 +34,7 @@ final class Images {
     return words.isBlank() ? new String[0] : words.trim().split(" +");
   }
 
-  private static int value(String word) {
+  static int value(String word) {
     return Integer.parseInt(word.replace("@", ""));
   }
 
